@@ -91,6 +91,27 @@ final class Check {
     }
   }
 
+  /** All that can be seen of a well without changing it. */
+  static String state(Seekwell well) {
+    StringBuilder state = new StringBuilder();
+    state.append(well.checksum()).append(' ').append(bytes(well::byteAt)).append(bytes(well::writtenAt));
+    state.append(' ').append(well.parts()).append(' ').append(text(well)).append(' ');
+    state.append(answerOf(well::hits));
+    for (int number = 0; number < 24; number++) {
+      int each = number;
+      state.append(' ').append(answerOf(() -> well.news(each))).append(answerOf(() -> well.fits(each)));
+    }
+    return state.toString();
+  }
+
+  /** A call that throws this exception, and changes nothing. */
+  static void refused(String what, String exception, Seekwell well, Call call) {
+    String before = state(well);
+    due(what, "throws." + exception, call);
+    String after = state(well);
+    due(what + " changes nothing", before, () -> after);
+  }
+
   static void end(String test) {
     System.out.println(test + ": " + checks + " checks, " + wrong + " wrong");
     if (wrong > 0 || checks == 0) {
