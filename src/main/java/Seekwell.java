@@ -1715,7 +1715,9 @@ public final class Seekwell {
       if (choices == null) {
         return terms;
       }
-      terms = choices.parent;
+      if (choices.parent != null) {
+        terms = choices.parent;
+      }
       if (choices.size != 1 || choices.first == null) {
         return choices;
       }
@@ -1740,9 +1742,6 @@ public final class Seekwell {
           return false;
         }
         Node closed = closeRow();
-        if (terms == null) {
-          return false;
-        }
         terms.put(closed);
         depth--;
       }
