@@ -545,8 +545,8 @@ public final class Seekwell {
 
     /** The first signs of a word, as many as told. */
     static long keep(long word, int size) {
-      if (size <= 0 || size > POWERS.length) {
-        return size <= 0 ? 0 : word;
+      if (size < 1 || size > POWERS.length) {
+        return word;
       }
       long unit = POWERS[POWERS.length - size];
       return unit <= 0 ? word : word - word % unit;

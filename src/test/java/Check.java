@@ -29,7 +29,9 @@ final class Check {
       Object got = call.answer();
       return got instanceof Integer ? Long.valueOf((Integer) got) : got;
     } catch (RuntimeException e) {
-      return "throws." + e.getClass().getSimpleName();
+      // The machine's own words for a division; its other exceptions have names of their own.
+      boolean isMachines = "/ by zero".equals(e.getMessage());
+      return (isMachines ? "the machine throws." : "throws.") + e.getClass().getSimpleName();
     }
   }
 

@@ -200,6 +200,7 @@ public final class FitTest {
     Check.due("tagged a", 2, () -> well.tagged('a'));
     Check.due("tagged z", 1, () -> well.tagged('z'));
     Check.due("tagged b", 0, () -> well.tagged('b'));
+    Check.due("tagged m, of the value 0", 1, () -> well.tagged('m'));
     Check.due("valued 5 to 6", 2, () -> well.valued(5, 6));
     Check.due("valued 5 to 5", 1, () -> well.valued(5, 5));
     Check.due("valued 0 to 999", 4, () -> well.valued(0, 999));

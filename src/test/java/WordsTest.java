@@ -63,6 +63,11 @@ public final class WordsTest {
     well.drop(2);
     Check.due("no words", 0, well::words);
     Check.refused("tellOf of none", "IndexOutOfBoundsException", well, () -> well.tellOf(0));
+    Seekwell other = Check.wellOf("b");
+    Check.due("tellOf at once", "b", () -> Check.told(other, () -> other.tellOf(0)));
+    Check.put(other, "c");
+    other.add(0, 'a');
+    Check.due("tellOf behind a new text", "c", () -> Check.told(other, () -> other.tellOf(1)));
     Seekwell titles = Check.wellOf("a b|", "b c|", "|d");
     Check.due("words of titles and bodies", 4, titles::words);
   }
@@ -94,6 +99,7 @@ public final class WordsTest {
     Check.due("twelve signs count", 1, () -> beginning(Check.wellOf("abcdefghijklm"), "abcdefghijklxyz"));
     Check.due("the last sign of twelve", 0, () -> beginning(Check.wellOf("abcdefghijklm"), "abcdefghijkm"));
     Check.due("zz", 1, () -> beginning(Check.wellOf("zzz"), "zz"));
+    Check.due("the next word behind all that begin so", 0, () -> beginning(Check.wellOf("dp dn e"), "do"));
   }
 
   private static void slips() {
