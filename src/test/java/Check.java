@@ -81,6 +81,15 @@ final class Check {
     return well;
   }
 
+  /** The greatest number of a text that there is, or -1. */
+  static int last(Seekwell well) {
+    int last = 23;
+    while (last >= 0 && !well.isThere(last)) {
+      last--;
+    }
+    return last;
+  }
+
   /** The bytes that are told at places from 0 on. */
   static List<Integer> bytes(java.util.function.IntUnaryOperator at) {
     List<Integer> bytes = new ArrayList<>();
@@ -93,15 +102,20 @@ final class Check {
     }
   }
 
-  /** All that can be seen of a well without changing it. */
+  /** All that can be seen of a well; what it takes to see it is put back. */
   static String state(Seekwell well) {
     StringBuilder state = new StringBuilder();
     state.append(well.checksum()).append(' ').append(bytes(well::byteAt)).append(bytes(well::writtenAt));
-    state.append(' ').append(well.parts()).append(' ').append(text(well)).append(' ');
+    state.append(' ').append(well.parts()).append(' ').append(well.words()).append(' ').append(text(well)).append(' ');
     state.append(answerOf(well::hits));
     for (int number = 0; number < 24; number++) {
       int each = number;
       state.append(' ').append(answerOf(() -> well.news(each))).append(answerOf(() -> well.fits(each)));
+    }
+    String text = text(well);
+    if (text.length() <= 160) {
+      state.append(' ').append(told(well, well::tellQuestion));
+      put(well, text);
     }
     return state.toString();
   }
