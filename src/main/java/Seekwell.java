@@ -1208,7 +1208,10 @@ public final class Seekwell {
     }
   }
 
-  /** A unit of a question, a row of choices or of terms, or parentheses around one term. */
+  /**
+   * A unit of a question, or a row of choices or of terms. Parentheses around one term are that term, but if both have
+   * a '!' or a weight: then they are a row of one choice.
+   */
   private static final class Node {
     static final int WORD = 0;
     static final int BEGINNING = 1;
@@ -1218,8 +1221,6 @@ public final class Seekwell {
     static final int VALUES = 5;
     static final int ALL = 6;
     static final int ANY = 7;
-    /** Parentheses around one term that has a '!' or a weight itself, with a '!' or a weight of their own. */
-    static final int HELD = 8;
 
     static final int ANYWHERE = 0;
     static final int IN_TITLE = 1;
@@ -1353,13 +1354,8 @@ public final class Seekwell {
       return kind == ALL;
     }
 
-    /** Takes its own weight and parentheses away, and puts a '!' ahead of a row to each one of it. */
+    /** Takes its own weight away, and puts a '!' ahead of a row to each one of it. */
     void pushNot() {
-      while (kind == HELD && first != null) {
-        boolean isTurned = isNot;
-        become(first);
-        isNot = isNot != isTurned;
-      }
       weight = 1;
       if (isNot && (kind == ALL || kind == ANY)) {
         isNot = false;
@@ -1726,7 +1722,6 @@ public final class Seekwell {
         return only;
       }
       if (only.isNot || only.weight > 1) {
-        choices.kind = Node.HELD;
         return choices;
       }
       only.isNot = choices.isNot;

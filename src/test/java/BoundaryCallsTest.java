@@ -18,6 +18,7 @@ public final class BoundaryCallsTest {
     newQuestions();
     newWhole();
     twoObjects();
+    mostCalls();
     typing();
     theFullText();
     placesOfTheText();
@@ -129,6 +130,25 @@ public final class BoundaryCallsTest {
     Check.add(other, "bird", 0, 'a');
     Check.due("what is saved", 0, () -> other.news(0));
     Check.due("and the one nothing of the other", 2, one::texts);
+  }
+
+  // ---- "An object is used for at most 512 calls after it has been made"
+
+  private static void mostCalls() {
+    Seekwell well = new Seekwell();
+    int calls = 0;
+    while (calls < 24 * 17) {
+      for (int i = 0; i < 16; i++) {
+        well.type((char) ('a' + calls++ % 26));
+      }
+      well.add(calls++ % 1000, 'a');
+    }
+    while (calls < 510) {
+      well.type('a');
+      calls++;
+    }
+    Check.due("the call 511", 24, well::texts);
+    Check.due("the call 512", true, well::isSound);
   }
 
   // ---- 2 to 4: "if its code is not 32 to 126", "if the text has 160 signs, or more", "if there is no such place"

@@ -26,6 +26,7 @@ public final class BoundaryWholeTest {
     checksums();
     checksumsThatGoRound();
     soundEmptyAndFull();
+    soundBehindChanges();
     Check.end("BoundaryWholeTest");
   }
 
@@ -340,5 +341,20 @@ public final class BoundaryWholeTest {
       Check.due("of one less", true, well::isSound);
     }
     Check.refused("24 came", STATE, well, () -> well.add(0, 'a'));
+  }
+
+  private static void soundBehindChanges() {
+    Seekwell well = new Seekwell();
+    Check.ask(well, "a|<b|\"c d\"");
+    String[] texts = {"a b|c d", "a|c", "|", "", "b b b|c d c d", "x|a", "d c b a", "b a|"};
+    for (String text : texts) {
+      Check.add(well, text, 0, 'a');
+      Check.due("a text that comes, '" + text + "'", true, well::isSound);
+    }
+    for (int i = 0; i < 64; i++) {
+      Check.put(well, texts[i % 8]);
+      well.revise(i / 8);
+      Check.due("text " + i / 8 + " revised to '" + texts[i % 8] + "'", true, well::isSound);
+    }
   }
 }

@@ -9,6 +9,7 @@ import java.util.regex.Pattern;
  */
 public final class FaultTest {
   private static final String SIGNS = "a!()|&^<*\"{[-]} 0";
+  private static final String ALL_SIGNS = allSigns();
   private static final String FEWER = "a!(|^\")";
   private static final String[] ENDS = {
     "", "a", "1", "\"", " a\"", "a\"", " a}", "a}", " a a}", "a a}", "1 a a}", "}", "1-1]", "-1]", "1]", "]"
@@ -18,7 +19,9 @@ public final class FaultTest {
   private static final String WORD = "[A-Za-z0-9]{1,12}";
   private static final Pattern UNIT = Pattern.compile("(?<!\\^)(\\[[0-9]{1,3}-[0-9]{1,3}\\]|[<>]?("
       + WORD + "[*~]?|\"" + WORD + "( " + WORD + ")*\"|\\{[0-9] " + WORD + "( " + WORD + ")+\\}))");
-  private static final String TERM = "!?@(\\^[1-9])?";
+  /** Stands for a unit; it cannot be typed. */
+  private static final String DONE = "\t";
+  private static final String TERM = "!?" + DONE + "(\\^[1-9])?";
   private static final Pattern ROW = Pattern.compile(TERM + "([|&]" + TERM + ")*");
   private static final Pattern INNER = Pattern.compile("\\(" + ROW + "\\)");
 
@@ -39,7 +42,22 @@ public final class FaultTest {
     for (String ahead : aheads) {
       tryAll(ahead, SIGNS, 2);
     }
+    String[] shortAheads = {
+      "", "!", "(", "a", "a^", "a^1", "[", "[1", "[1-", "[1-1", "[1-1]", "{", "{1", "{1 ", "{1 a", "{1 a ", "{1 a a",
+      "{1 a a}", "\"", "\"a", "\"a ", "\"a a", "\"a\"", "<", ">", "a*", "a~", "(a", "(a)", "a|", "a&", "a ", "aaaaaaaaaaaa"
+    };
+    for (String ahead : shortAheads) {
+      tryAll(ahead, ALL_SIGNS, 1);
+    }
     Check.end("FaultTest");
+  }
+
+  private static String allSigns() {
+    StringBuilder signs = new StringBuilder();
+    for (char sign = 32; sign <= 126; sign++) {
+      signs.append(sign);
+    }
+    return signs.toString();
   }
 
   private static void tryAll(String text, String signs, int left) {
@@ -85,11 +103,11 @@ public final class FaultTest {
   }
 
   private static boolean isQuestion(String text) {
-    String left = UNIT.matcher(text).replaceAll("@");
+    String left = UNIT.matcher(text).replaceAll(DONE);
     String before = "";
     while (!left.equals(before)) {
       before = left;
-      left = INNER.matcher(left).replaceAll("@");
+      left = INNER.matcher(left).replaceAll(DONE);
     }
     return ROW.matcher(left).matches();
   }

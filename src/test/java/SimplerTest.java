@@ -7,6 +7,7 @@ public final class SimplerTest {
     needless();
     innerRowsFirst();
     whatIsAsked();
+    oneBehindTheOther();
     Check.end("SimplerTest");
   }
 
@@ -130,6 +131,23 @@ public final class SimplerTest {
     Check.ask(well, "a|!(");
     Check.due("a fault leaves the simpler one", "!a&!b", () -> Check.told(well, well::tellQuestion));
     longOnes();
+  }
+
+  /** What went from one question is not missing in a later one. */
+  private static void oneBehindTheOther() {
+    Seekwell well = new Seekwell();
+    String[] questions = {"a|a", "a|b", "a&b|a|c&a", "a&b|c|d&e", "(a|b)&(b|a)&(c|c)", "(a|b)&(c|d)&(e|f)"};
+    String[] wants = {"a", "a|b", "a", "a&b|c|d&e", "(b|a)&c", "(a|b)&(c|d)&(e|f)"};
+    for (int i = 0; i < 36; i++) {
+      String question = questions[i % 6];
+      String want = wants[i % 6];
+      for (int k = 0; k < i / 6; k++) {
+        Check.ask(well, questions[k]);
+      }
+      Check.ask(well, question);
+      well.simplify();
+      Check.due("'" + question + "' behind others", want, () -> Check.told(well, well::tellQuestion));
+    }
   }
 
   private static void longOnes() {

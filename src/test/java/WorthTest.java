@@ -9,6 +9,8 @@ public final class WorthTest {
     unlikeUnits();
     order();
     ties();
+    nearlyTies();
+    nearlyTiesOfFractions();
     firstOnes();
     wrongCalls();
     Check.end("WorthTest");
@@ -145,6 +147,48 @@ public final class WorthTest {
     Check.put(well, "a");
     well.revise(0);
     Check.due("the lowest number first", "0 2 4 5", () -> order(well, "a"));
+  }
+
+  /** Worths that differ by less than what a double could tell. */
+  private static void nearlyTies() {
+    Seekwell well = Check.wellOf("a x", "a b", "a x", "|x", "a y|");
+    String great = "(".repeat(36) + "a^9" + ")^9".repeat(36);
+    Check.due("all but one tie", "4 0 1 2", () -> order(well, great));
+    Check.due("a little more is ahead", "4 1 0 2", () -> order(well, great + "|b"));
+    Check.due("a little more is ahead early", 1, () -> well.top(2, 1));
+    BigInteger fifths = BigInteger.valueOf(9).pow(37).multiply(BigInteger.TWO);
+    Check.due("the great worth", fifths + "/5", () -> Check.told(well, () -> well.tellWorth(0)));
+    Check.due("and a little more", fifths.add(BigInteger.valueOf(5)) + "/5",
+        () -> Check.told(well, () -> well.tellWorth(1)));
+    Check.due("isSound", true, well::isSound);
+  }
+
+  /** 1/23, 1/19, 1/17, 1/13 and 1/11, so many times that two sums differ by the product of all alone. */
+  private static void nearlyTiesOfFractions() {
+    String[] words = {"p", "q", "r", "s", "t"};
+    int[] fitting = {22, 18, 16, 12, 10};
+    int[] less = {10, 6, 2, 1, 1};
+    int[] more = {1, 1, 1, 2, 8};
+    // Both have 21 words.
+    StringBuilder one = new StringBuilder("x ");
+    StringBuilder other = new StringBuilder("x ".repeat(8));
+    for (int i = 0; i < words.length; i++) {
+      one.append((words[i] + " ").repeat(less[i]));
+      other.append((words[i] + " ").repeat(more[i]));
+    }
+    for (boolean isLessFirst : new boolean[] {true, false}) {
+      Seekwell well = isLessFirst ? Check.wellOf(one.toString(), other.toString())
+          : Check.wellOf(other.toString(), one.toString());
+      for (int number = 2; number < 24; number++) {
+        StringBuilder text = new StringBuilder("|");
+        for (int i = 0; i < words.length; i++) {
+          text.append(number < fitting[i] ? words[i] + " " : "");
+        }
+        Check.add(well, text + "y ".repeat(20), 0, 'a');
+      }
+      String want = isLessFirst ? "1 0 " : "0 1 ";
+      Check.due("the greater one is ahead", want, () -> order(well, "p|q|r|s|t").substring(0, 4));
+    }
   }
 
   private static void firstOnes() {
