@@ -1,7 +1,7 @@
 import java.util.List;
 import java.util.function.Function;
 
-/** The boundary cases of promises 1 to 25: the least, the greatest, the first beyond, the empty, the full, the refused. */
+/** The boundary cases of promises 1 to 25: the least, the greatest, the first beyond, none, all, and the refused. */
 public final class BoundaryCallsTest {
   private static final String ARGUMENT = "IllegalArgumentException";
   private static final String STATE = "IllegalStateException";
@@ -368,8 +368,8 @@ public final class BoundaryCallsTest {
 
   private static void oneWordAlone() {
     Seekwell well = Check.wellOf("dog dig", "a z 0 9");
-    String[] wrongs = {"", " ", "|", "dog ", " dog", "dog dig", "dog|", "|dog", "dog*", "dog~", "\"dog\"", "<dog", "!dog",
-        "(dog)", "dog^2", "do g", "~", " ".repeat(160), "a".repeat(159) + " ", " " + "a".repeat(159)};
+    String[] wrongs = {"", " ", "|", "dog ", " dog", "dog dig", "dog|", "|dog", "dog*", "dog~", "\"dog\"", "<dog",
+        "!dog", "(dog)", "dog^2", "do g", "~", " ".repeat(160), "a".repeat(159) + " ", " " + "a".repeat(159)};
     for (String wrong : wrongs) {
       Check.put(well, wrong);
       String named = " of '" + wrong + "'";
@@ -452,7 +452,8 @@ public final class BoundaryCallsTest {
     Check.due("none", 0, well::slips);
   }
 
-  // ---- 19: "within a slip of it, but not the same, that most texts have, of like ones the first one", "if there is none"
+  // ---- 19: "within a slip of it, but not the same, that most texts have, of like ones the first one", and
+  // "if there is none"
 
   private static void suggestions() {
     Seekwell well = new Seekwell();
@@ -484,7 +485,8 @@ public final class BoundaryCallsTest {
     Check.due("the text stays", 13, well::erase);
   }
 
-  // ---- 20 to 23: "if there is no such part", "if the newest part has no texts", "if there are 8 parts", "or none behind it"
+  // ---- 20 to 23: "if there is no such part", "if the newest part has no texts", "if there are 8 parts", and
+  // "or none behind it"
 
   private static void numbersOfParts() {
     Seekwell well = new Seekwell();

@@ -94,7 +94,8 @@ public final class BoundaryQuestionsTest {
   private static void theQuestionOfBefore() {
     Seekwell well = Check.wellOf("a", "b", "a b");
     Check.ask(well, "!(a&b)^3");
-    for (String fault : new String[] {"", "b&", "b|(a", "b)", "a b", "aaaaaaaaaaaaa", "b^0", "[1-1000]", "((((b))))("}) {
+    String[] faults = {"", "b&", "b|(a", "b)", "a b", "aaaaaaaaaaaaa", "b^0", "[1-1000]", "((((b))))("};
+    for (String fault : faults) {
       Check.due("a fault, '" + fault + "'", true, () -> Check.ask(well, fault) < 0);
       Check.due("hits of before", 2, well::hits);
       Check.due("the first of before", 0, () -> well.hitAt(0));
@@ -126,7 +127,8 @@ public final class BoundaryQuestionsTest {
     String deep = "!(".repeat(53) + "a" + ")".repeat(53);
     Seekwell well = Check.wellOf("a", "b");
     Check.due("as deep as can be", 1, () -> Check.ask(well, deep));
-    Check.due("told alike", deep.substring(0, 104) + "!a" + deep.substring(108), () -> Check.told(well, well::tellQuestion));
+    Check.due("told alike", deep.substring(0, 104) + "!a" + deep.substring(108),
+        () -> Check.told(well, well::tellQuestion));
     Check.due("behind 53 '!'", "false true", () -> well.fits(0) + " " + well.fits(1));
     Check.due("isSound", true, well::isSound);
     Check.due("simplify", 1, well::simplify);
@@ -334,7 +336,8 @@ public final class BoundaryQuestionsTest {
     Check.ask(well, "a");
     for (char tag = 0; tag < 300; tag++) {
       char each = tag;
-      Object want = tag >= 'a' && tag <= 'x' ? (Object) 1 : tag == 'y' || tag == 'z' ? (Object) 0 : "throws." + ARGUMENT;
+      boolean isTag = tag >= 'a' && tag <= 'z';
+      Object want = isTag ? (Object) (tag <= 'x' ? 1 : 0) : "throws." + ARGUMENT;
       Check.due("tagged " + (int) tag, want, () -> well.tagged(each));
     }
     for (char tag : new char[] {'`', '{', 0, 65535, 256 + 'a'}) {

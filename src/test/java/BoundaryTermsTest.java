@@ -251,7 +251,8 @@ public final class BoundaryTermsTest {
     Check.due("nor does it come back", false, () -> few.isThere(1));
   }
 
-  // ---- "its title is what stands ahead of the first '|', its body what stands behind it; without a '|' all is the body"
+  // ---- "its title is what stands ahead of the first '|', its body what stands behind it; without a '|' all is the
+  // body"
 
   private static void titles() {
     String[] texts = {"", "|", "||", "a", "|a", "a|", "a|b", "a|b|c", "a b|", "|a|b", "do|gs"};
@@ -424,7 +425,8 @@ public final class BoundaryTermsTest {
 
   private static void spans() {
     String[][] spans = {
-      {"a", "a", "0 1"}, {"a a", "a", "0 1"}, {"x a a", "a", "1 1"}, {"a b a b", "a&b", "0 2"}, {"a x b a b", "a&b", "2 2"},
+      {"a", "a", "0 1"}, {"a a", "a", "0 1"}, {"x a a", "a", "1 1"}, {"a b a b", "a&b", "0 2"},
+      {"a x b a b", "a&b", "2 2"},
       {"a b", "\"a b\"", "0 2"}, {"a x a b", "\"a b\"", "2 2"}, {"a b x b", "\"a b\"&x", "0 3"},
       {"b x a b", "\"a b\"&x", "1 3"}, {"x", "x&!y", "0 1"}, {"x y", "x|y^9", "0 2"}, {"y|x", "x&y", "0 1"}
     };

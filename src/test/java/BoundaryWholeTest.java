@@ -239,7 +239,8 @@ public final class BoundaryWholeTest {
   private static void rereadAll() {
     Seekwell well = new Seekwell();
     for (int i = 0; i < 24; i++) {
-      Check.add(well, i % 2 == 0 ? "a".repeat(160) : "t ".repeat(40) + "|" + "b ".repeat(39), 999 - i, (char) ('z' - i));
+      String text = i % 2 == 0 ? "a".repeat(160) : "t ".repeat(40) + "|" + "b ".repeat(39);
+      Check.add(well, text, 999 - i, (char) ('z' - i));
     }
     well.erase();
     long due = well.checksum();
@@ -254,8 +255,8 @@ public final class BoundaryWholeTest {
     Check.due("isSound", true, well::isSound);
   }
 
-  // ---- 44: "Returns 7 at first, then for each text ... then for each part likewise how many texts it has; then for each
-  // sign of the text its code", "a long that goes round"
+  // ---- 44: "Returns 7 at first, then for each text ... then for each part likewise how many texts it has; then for
+  // each sign of the text its code", "a long that goes round"
 
   /** The sum of these numbers, as a long that goes round. */
   private static long sum(List<Integer> numbers) {

@@ -44,7 +44,8 @@ public final class FaultTest {
     }
     String[] shortAheads = {
       "", "!", "(", "a", "a^", "a^1", "[", "[1", "[1-", "[1-1", "[1-1]", "{", "{1", "{1 ", "{1 a", "{1 a ", "{1 a a",
-      "{1 a a}", "\"", "\"a", "\"a ", "\"a a", "\"a\"", "<", ">", "a*", "a~", "(a", "(a)", "a|", "a&", "a ", "aaaaaaaaaaaa"
+      "{1 a a}", "\"", "\"a", "\"a ", "\"a a", "\"a\"", "<", ">", "a*", "a~", "(a", "(a)", "a|", "a&", "a ",
+      "aaaaaaaaaaaa"
     };
     for (String ahead : shortAheads) {
       tryAll(ahead, ALL_SIGNS, 1);
